@@ -270,6 +270,7 @@ public final class PromiseTest {
         due("11 fors", x.at(1, 1), 0);
         due("11 fors", x.at(2, 1), 2);
         due("11 juice", x.at(2, 0), 7);
+        x.say(NONE);
         due("11 again", read(x, "4;p1"), 1);
         counts("11 in place of all", x, 1, 1, 0, 0, 0, 7, 4, 0, 0);
         due("11 a new saying is nobody's", x.saying(1, 0), 0);
@@ -575,6 +576,29 @@ public final class PromiseTest {
         GossipBoat y = of("60;p3,p4;20:0,20:0");
         y.frost(5);
         due("22 one of ice a minute until the juice is gone, which comes first", y.through(), through(60, 5));
+        throughAtItsEdge();
+    }
+
+    // The least ice of the last cell by which it is no more to be foretold: one minute later it is, by 99.
+    private static void throughAtItsEdge() {
+        int ice = 0;
+        GossipBoat x = edge("60.60.60.60.60.60.60." + ice, 8);
+        while (ice < 60 && x.through() != NONE) {
+            ice++;
+            x = edge("60.60.60.60.60.60.60." + ice, 8);
+        }
+        due("22 an edge is found", x.through(), NONE);
+        x.say(x.next(0));
+        due("22 99 are foretold", x.through(), 99);
+        due("22 behind them, as by greedy", x.greedy(99, 0), 8);
+        due("22 and not ahead of them", x.greedy(98, 0), 7);
+    }
+
+    // Three loud sayings keep one another in juice for ever.
+    private static GossipBoat edge(String cells, int frost) {
+        GossipBoat x = of(cells + ";l3,l1;20:0,20:0,20:0");
+        x.frost(frost);
+        return x;
     }
 
     // Two like sayings with 20 of juice that rock by 6, said by turns as long as there is juice.
@@ -653,6 +677,7 @@ public final class PromiseTest {
         due("25 of 0 alone: 1 or 2 would make it 10, the first", x.minds(1, 0), 1);
         due("25", x.minds(1, 1), 10);
         due("25 none: 10 is most", x.minds(2, 0), NONE);
+        due("25 the first one", of("9;p9,p1;8").minds(0, 0), 0);
         due("25 none", x.minds(2, 1), NONE);
         due("25 none: no juice", x.minds(3, 0), NONE);
         due("25", x.minds(4, 0), BAD);
@@ -739,6 +764,24 @@ public final class PromiseTest {
         GossipBoat v = of("0;p1;19,20");
         due("29 juice: 19 20, 17 20, .., 1 20, 0 20, 0 20, 0 20", v.ring(0), 12);
         due("29 between", v.ring(1), 2);
+        ringAtItsEdge();
+    }
+
+    private static void ringAtItsEdge() {
+        int ice = 0;
+        String cells = "60.60.60.60.60.60.60.60.60.60.60.";
+        GossipBoat x = edge(cells + ice, 9);
+        while (ice < 60 && x.ring(0) != NONE) {
+            ice++;
+            x = edge(cells + ice, 9);
+        }
+        due("29 an edge is found", x.ring(0), NONE);
+        due("29 none", x.ring(1), NONE);
+        for (int k = 0; k < 40 && x.ring(0) == NONE; k++) {
+            x.say(x.next(0));
+        }
+        due("29 200 are foretold", x.ring(0), 200);
+        due("29 three sayings come round in an even number of minutes", x.ring(1), 6);
     }
 
     private static void enough() {
@@ -829,6 +872,13 @@ public final class PromiseTest {
         x.say(NONE);
         x.restore();
         due("32 the latest one counts", x.at(0, 1), 3);
+        GossipBoat y = of("1.2.3.4.5.6.7.8.9.10.11.12;p1,l2,d3,s4,c5,l6;1,2,3,4,5:012345");
+        y.image();
+        read(y, "1;p1");
+        y.restore();
+        due("33 the last cell", y.ice(11), 12);
+        due("33 the last person", y.of(5, 0) * 10 + y.of(5, 1), 16);
+        due("33 the last saying", y.at(4, 0) * 100 + y.at(4, 1), 563);
     }
 
     private static void felt() {
@@ -926,6 +976,9 @@ public final class PromiseTest {
         due("36 new row", x.sheet(0, 0, 2), 2);
         due("36 is of zeros", x.felt(0, 0, 0, 1, 0), 4);
         x.item(0, 0, 1, 9);
+        due("36 once more", x.sheet(0, 0, 2), 2);
+        due("36 is of zeros", x.felt(0, 0, 0, 1, 0), 4);
+        x.item(0, 0, 0, 9);
         due("36 once more", x.sheet(0, 0, 2), 2);
         due("36 is of zeros", x.felt(0, 0, 0, 1, 0), 4);
         due("36 size", x.sheet(0, 1, -1), SIZE);
