@@ -109,6 +109,7 @@ final class EdgeCrews {
         // The stubborn one is alone for it once the other one has left: 10 against 9.
         edge.boat("9;s3,p9,p9,p9;8:01").is(5, "boats", 0).is(18, "boats", 1);
         edge.boat("9;p3,p4;8:0").is(0, "boats", 0).is(0, "boats", 1);
+        edge.boat("9;p3,p4,p5,p6;8,8,8,8:0,8:2").is(3, "boats", 0).is(6, "boats", 1);
         edge.boat("9;p3,p4,p5,p6").is(0, "boats", 0).is(0, "boats", 1);
         edge.boat("9;p3,p4,p5,p6;0:02").is(0, "boats", 0).is(0, "boats", 1);
         edge.boat("9;p1,p9,p1,p1,p9,p9;8:145").is(3, "boats", 0).is(2, "boats", 1);

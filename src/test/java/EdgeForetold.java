@@ -124,6 +124,11 @@ final class EdgeForetold {
         // 1 first, as 0 of juice 5 grows to 6 meanwhile, and the dull one rocks by it: less ice than 0 1, 0 0, 1 1.
         orderOfPlan(edge.boat("60;d9,p9,p1;5:0,9:2"), 1, 0);
         orderOfPlan(edge.boat("60;p1,p1;9:0,9:0"), 0, 0, 0, 0);
+        orderOfPlan(edge.boat("60;p1,p1;9,9,9,9,9:0"), 4, 4, 4, 4);
+        // In each minute one is said: it can't wait until the dull one has juice enough.
+        Boat said = edge.boat("18;d9,p9;5:0").does("frost", 0).is(0, "plan", 2, -1).is(0, "plan", 1, -1);
+        orderOfPlan(said, 0, 0);
+        said.does("say", NONE).is(1, "plan", 1, -1);
         orderOfPlan(edge.boat("60;p1,p1;3:0,3:0"), 0, 0, 1, 1);
     }
 
@@ -190,6 +195,14 @@ final class EdgeForetold {
         edge.boat("57;p1").is(5, "ring", 0).is(2, "ring", 1);
         // 4 1, 2 2, 0 3, 0 4 and on to 0 20 behind minute 19; all together are as many behind 3 as behind 1.
         edge.boat("0;p1;4,1").is(21, "ring", 0).is(2, "ring", 1);
+        // Each one's juice by itself: 17, 18, 19, 20 (the first one, which is said: 5, 3, 1, 0), and as behind 3.
+        for (int s = 0; s < 5; s++) {
+            Boat b = edge.boat("0;p1");
+            for (int other = 0; other < 5; other++) {
+                b.does("saying", other != s ? 0 : s == 0 ? 5 : 17, 0);
+            }
+            b.is(5, "ring", 0).is(2, "ring", 1);
+        }
         // Through behind 1: 18 20 20, then 19 18 20, 20 19 18, 18 20 19, and so on.
         edge.boat("12" + BY_TWELVE).is(8, "ring", 0).is(6, "ring", 1);
     }

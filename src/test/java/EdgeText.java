@@ -16,8 +16,10 @@ final class EdgeText {
         sayings();
         fors();
         inPlaceOfAll();
+        nothingOfTheOld();
         digits();
         faults();
+        theEnd();
         blanks();
         canal();
         fullTape();
@@ -61,6 +63,8 @@ final class EdgeText {
         fault(0, ".5;p1");
         fault(0, "x");
         fault(0, "-1;p1");
+        fault(0, "p1");
+        fault(2, "5.p1");
         fault(0, "61;p1");
         fault(0, "99;p1");
         fault(2, "5.61;p1");
@@ -96,6 +100,7 @@ final class EdgeText {
         fault(5, "5;p1,");
         fault(5, "5;p1,,p1");
         fault(5, "5;p1,1");
+        fault(5, "5;p1,;3");
         fault(6, "5;p1,p");
         fault(18, "5;p1,p1,p1,p1,p1,p0");
         fault(19, "5;" + SIX + ",p1");
@@ -186,6 +191,27 @@ final class EdgeText {
         after.is(1, "count", 2).is(0, "at", 0, 1).is(1, "count", 0).is(8, "ice", 0).is(2, "count", 1).is(3, "of", 0, 1);
     }
 
+    // What is foretold does not see a cell, a person, a saying that was there.
+    private void nothingOfTheOld() {
+        String less = "60.3;p3,p4,p5,p6;9:0";
+        Boat b = edge.boat("9.9.9.9;p9,p9,p9,p9,s9,s9;20:01,20:02,20:03,20:12,20:4").does("say", 4).types(less).does("canal");
+        edge.same("foretold as of a new one", foretold(b), foretold(edge.boat(less)));
+        Boat none = edge.boat("9.9.9.9;p9,p9,p9,p9,s9,s9;20:01,20:02,20:03,20:12,20:4").types("60;p3,p4,p5,p6").does("canal");
+        edge.same("foretold as of a new one", foretold(none), foretold(edge.boat("60;p3,p4,p5,p6")));
+    }
+
+    private static String foretold(Boat b) {
+        StringBuilder seen = new StringBuilder();
+        for (int what = 0; what < 2; what++) {
+            seen.append(b.ask("next", what)).append(' ').append(b.ask("boats", what)).append(' ').append(b.ask("ring", what)).append(' ');
+            seen.append(b.ask("plan", 4, what - 1)).append(' ').append(b.ask("once", what - 1)).append(' ').append(b.ask("greedy", 30, what));
+            seen.append(' ').append(b.ask("crew", 0, 2, what)).append(' ').append(b.ask("minds", 0, what)).append(' ');
+            seen.append(b.ask("sway", 0, 7, what)).append(' ').append(b.ask("sick", 0, 3, what)).append(' ').append(b.ask("count", 6 + what));
+            seen.append(' ');
+        }
+        return seen.append(b.ask("through")).append(' ').append(b.ask("enough", 0)).append(' ').append(b.ask("of", 0, 2)).toString();
+    }
+
     private void digits() {
         edge.terms("Numbers have 1 or 2 digits (a third one can't stand there).");
         reads(2, "00.09;p1;00,09").is(0, "ice", 0).is(9, "ice", 1).is(0, "at", 0, 0).is(9, "at", 1, 0);
@@ -219,6 +245,16 @@ final class EdgeText {
         fault(6, "5;p   ");
         fault(8, "5;p1;1: 1");
         fault(1, "5x.61");
+    }
+
+    // Letters of a longer text ahead of it are no letters of this one.
+    private void theEnd() {
+        String text = "12.60;p1,l9;20:01,9:1";
+        String whole = " 8 11 13 14 16 17 19 21 ";
+        for (int n = 0; n <= text.length(); n++) {
+            int due = whole.contains(" " + n + " ") ? 2 : -20 - n;
+            edge.boat(text).types(text.substring(0, n)).is(due, "canal");
+        }
     }
 
     private void blanks() {
@@ -257,6 +293,15 @@ final class EdgeText {
         edge.boat().types(repeated(" ", 106) + "5;p1").is(1, "canal").is(5, "ice", 0);
         edge.boat().types("5;p1;3:0" + repeated(" ", 102)).is(1, "canal").is(1, "at", 0, 1);
         edge.boat().types(repeated(" ", 106) + "5;p0").is(-129, "canal");
+        // The end at the tape's own end, wherever a letter is wanted.
+        String[] ends = {"5", "5.", "5;", "5;p", "5;p1,", "5;p1;", "5;p1;3:", "5;p1;3,", "5;p1;3:0,"};
+        for (String end : ends) {
+            edge.boat().types(repeated(" ", 110 - end.length()) + end).is(-130, "canal");
+        }
+        String[] wholes = {"5;p1", "5;p1;3", "5;p1;20", "5;p1;3:0", "5;p1;1,1,1,1,1", "5;p1;1,1,1,1,1:0"};
+        for (String all : wholes) {
+            edge.boat().types(repeated(" ", 110 - all.length()) + all).is(1, "canal");
+        }
         // A letter that found no place is none.
         edge.boat().types(repeated(" ", 106) + "5;p1").is(FULL, "type", 'x').is(1, "canal").is(NONE, "undo");
     }

@@ -9,7 +9,7 @@ final class Worlds {
     private Worlds() {
     }
 
-    /** Two cells behind the boat's start, three people, two sayings; sheets of ints, longs, bytes. */
+    /** Three cells, three people, two sayings, five deeds; sheets of ints, longs, bytes. */
     static Boat small(Edge edge) {
         return sheets(untyped(edge)).types("4;p");
     }
