@@ -24,6 +24,16 @@ final class Edge {
         begin(Sentences.TERMS, words);
     }
 
+    /** From here on the tests are of these words of the section 'What it is'. */
+    void whole(String words) {
+        begin(Sentences.WHAT_IT_IS, words);
+    }
+
+    /** From here on the tests are of what these words of the section 'Not promised' leave. */
+    void free(String words) {
+        begin(Sentences.NOT_PROMISED, words);
+    }
+
     private void begin(String place, String words) {
         dues.holds("a test for: " + sentence, lookedAt > 0);
         sentence = place + ", '" + words + "': ";

@@ -8,6 +8,7 @@ import java.nio.file.Path;
 public final class EdgeTest {
     public static void main(String[] args) throws IOException {
         Edge edge = new Edge(Path.of("../shared/DOC.md"));
+        new EdgeWhole(edge).run();
         new EdgeCanal(edge).run();
         new EdgeDone(edge).run();
         new EdgeForetold(edge).run();

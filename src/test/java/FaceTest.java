@@ -16,16 +16,10 @@ import java.util.regex.Pattern;
 /** The face as the document tells it, and what of LANGUAGE.md shows from outside or in the text. */
 public final class FaceTest {
     private static final Dues DUES = new Dues();
-    private static final String[] METHODS = {
-        "cell int", "person int int", "saying int int", "ice int", "of int int", "at int int", "rocks int int", "frost int",
-        "type int", "canal", "count int", "say int", "thaw int int", "mind int int", "drift int", "undo", "seed int", "rock int",
-        "next int", "greedy int int", "through", "plan int int", "crew int int int", "minds int int", "once int",
-        "sway int int int", "boats int", "ring int", "enough int", "sick int int int", "image", "restore",
-        "felt int int int int int", "film int int int int int", "sheet int int int", "drop int", "item int int int long",
-        "copy int int int int int",
-    };
+    private static final int CALLS = 38;
     private static final String[] CONSTANTS = {"BAD", "NOT", "FULL", "NONE", "NULL", "CAST", "INDEX", "SIZE"};
     private static final int[] VALUES = {-1, -2, -3, -4, -11, -12, -13, -14};
+    private static final Path DOCUMENT = Path.of("../shared/DOC.md"), CLASS = Path.of("src/main/java/GossipBoat.java");
     private static final String[] RULED_OUT = {
         "\\bimport\\b", "\\bpackage\\b", "->", "::", "\\bcatch\\b", "\\bthrow\\b", "\\bfinally\\b", "\\bsynchronized\\b", "\\bassert\\b",
         "Exact\\b", "\\btoString\\b", "\\bhashCode\\b", "\\bfloat\\b", "\\bdouble\\b", "\\bSystem\\.(?!arraycopy\\b)", "\\bstatic \\{",
@@ -34,10 +28,14 @@ public final class FaceTest {
 
     public static void main(String[] args) throws Exception {
         face();
+        faceInText();
         constants();
         inside(GossipBoat.class);
+        Set<String> calls = documentCalls();
+        privateNames(GossipBoat.class, calls);
         for (Class<?> c : GossipBoat.class.getDeclaredClasses()) {
             inside(c);
+            privateNames(c, calls);
             DUES.holds(c + " is static", Modifier.isStatic(c.getModifiers()));
             DUES.holds(c + " is not public or protected", (c.getModifiers() & (Modifier.PUBLIC | Modifier.PROTECTED)) == 0);
         }
@@ -46,14 +44,52 @@ public final class FaceTest {
         DUES.end();
     }
 
-    private static void face() {
+    /** The lines of 'The public face', without the class's own. */
+    private static List<String> documentFace() throws IOException {
+        String document = Files.readString(DOCUMENT);
+        int from = document.indexOf("```java", document.indexOf("## The public face"));
+        List<String> lines = new ArrayList<>();
+        for (String line : document.substring(from, document.indexOf("\n```", from)).split("\n")) {
+            if (line.startsWith("    ")) {
+                lines.add(line.trim());
+            }
+        }
+        return lines;
+    }
+
+    // As the document writes it, with the parameters' names: so a reader of either knows the other.
+    private static void faceInText() throws IOException {
+        List<String> due = documentFace();
+        Set<String> shown = new TreeSet<>();
+        for (String line : Files.readString(CLASS).split("\n")) {
+            if (line.startsWith("    public ")) {
+                shown.add(line.trim().replaceAll(" \\{$", ";"));
+            }
+        }
+        DUES.due("lines of the face", due.size(), CALLS + 2);
+        DUES.holds("the face is the document's: " + shown, shown.equals(new TreeSet<>(due)));
+        DUES.holds("the class's own line", Files.readString(CLASS).contains("\npublic final class GossipBoat {\n"));
+    }
+
+    /** The document's calls, each as its name and the types of its parameters. */
+    private static Set<String> documentCalls() throws IOException {
+        Set<String> calls = new TreeSet<>();
+        for (String line : documentFace()) {
+            Matcher m = Pattern.compile("public int (\\w+)\\((.*)\\);").matcher(line);
+            if (m.matches()) {
+                calls.add((m.group(1) + " " + m.group(2).replaceAll(" \\w+(, |$)", " ")).trim());
+            }
+        }
+        return calls;
+    }
+
+    private static void face() throws IOException {
         int modifiers = GossipBoat.class.getModifiers();
         DUES.holds("public and final", Modifier.isPublic(modifiers) && Modifier.isFinal(modifiers));
+        Set<String> due = documentCalls();
         Set<String> shown = new TreeSet<>();
-        Set<String> hidden = new TreeSet<>();
         for (Method m : GossipBoat.class.getDeclaredMethods()) {
             if (Modifier.isPrivate(m.getModifiers())) {
-                hidden.add(m.getName());
                 continue;
             }
             StringBuilder b = new StringBuilder(m.getName());
@@ -63,12 +99,19 @@ public final class FaceTest {
             shown.add(b.toString());
             DUES.holds(m + " is public, of the object, answers an int", m.getModifiers() == Modifier.PUBLIC && m.getReturnType() == int.class);
         }
-        DUES.holds("the methods are the document's: " + shown, shown.equals(new TreeSet<>(Arrays.asList(METHODS))));
-        for (String s : METHODS) {
-            DUES.holds("no private method is named " + s, !hidden.contains(s.split(" ")[0]));
-        }
+        DUES.due("calls of the document", due.size(), CALLS);
+        DUES.holds("the methods are the document's: " + shown, shown.equals(due));
         Constructor<?>[] made = GossipBoat.class.getDeclaredConstructors();
         DUES.holds("one public constructor", made.length == 1 && Modifier.isPublic(made[0].getModifiers()) && made[0].getParameterCount() == 0);
+    }
+
+    private static void privateNames(Class<?> c, Set<String> calls) {
+        for (Method m : c.getDeclaredMethods()) {
+            for (String call : calls) {
+                boolean isLike = Modifier.isPrivate(m.getModifiers()) && m.getName().equals(call.split(" ")[0]);
+                DUES.holds(m + " is private and bears the name of a public one", !isLike);
+            }
+        }
     }
 
     private static void constants() throws Exception {
@@ -102,7 +145,7 @@ public final class FaceTest {
     }
 
     private static void text() throws IOException {
-        String source = Files.readString(Path.of("src/main/java/GossipBoat.java"));
+        String source = Files.readString(CLASS);
         String code = source.replaceAll("(?s)/\\*.*?\\*/", "").replaceAll("//[^\n]*", "");
         for (String word : RULED_OUT) {
             Matcher m = Pattern.compile(word).matcher(code);

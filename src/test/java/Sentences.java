@@ -7,10 +7,11 @@ import java.util.List;
 
 /**
  * The document's words, place by place ("Promise 13", "Terms"), and which of them a test has quoted: a test
- * that quotes what the document does not say, and words that no test quotes, are both told.
+ * that quotes what the document does not say, and words that no test quotes, are both told. 'The public face' is
+ * not among them: FaceTest reads it.
  */
 final class Sentences {
-    static final String TERMS = "Terms";
+    static final String TERMS = "Terms", WHAT_IT_IS = "What it is", NOT_PROMISED = "Not promised";
     private static final int PROMISES = 39;
     private final List<String> places = new ArrayList<>();
     private final List<String> texts = new ArrayList<>();
@@ -23,6 +24,8 @@ final class Sentences {
             String body = end < 0 ? "" : part.substring(end);
             if (head.equals(TERMS)) {
                 keep(TERMS, withoutHeadings(body).replace("```text", " ").replace("```", " "));
+            } else if (head.equals(WHAT_IT_IS) || head.equals(NOT_PROMISED)) {
+                keep(head, body);
             } else if (head.startsWith("Promise ")) {
                 keep(head.substring(0, head.indexOf(':')), body.substring(body.indexOf("`:") + 2));
             }
@@ -68,7 +71,7 @@ final class Sentences {
     /** What nobody has quoted, each with its place; signs alone don't count. */
     List<String> unquoted() {
         List<String> left = new ArrayList<>();
-        if (places.size() != PROMISES + 1) {
+        if (places.size() != PROMISES + 3) {
             left.add("the document has " + places.size() + " places");
         }
         for (int k = 0; k < places.size(); k++) {
